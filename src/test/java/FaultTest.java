@@ -44,6 +44,12 @@ public final class FaultTest {
         due(1, 18, "hill 900 1000 20  ");
         due(1, 5, "hill -900 1000 20;");
         due(1, 5, "wind 3;");
+        due(1, 4, "wind;");
+        due(1, 4, "hill;");
+        due(1, 3, "man;");
+        due(1, 7, "judge x;");
+        due(1, 5, "parts;");
+        due(1, 4, "seed;");
         due(1, 6, "wind =;");
         due(1, 6, "wind =");
         due(1, 7, "wind = - 3;");

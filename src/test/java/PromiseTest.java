@@ -457,6 +457,18 @@ public final class PromiseTest {
         due("pound(0, 0, -1)", NO, x.pound(0, 0, -1));
         due("pound(3, 0, 0)", NO, x.pound(3, 0, 0));
         due("pound(-1, 0, 0)", NO, x.pound(-1, 0, 0));
+        begin("20 to 23, 29 in the wind that blows now", "wind = if at < 5 then 1 else 10; parts 1 0 0 0 0; snow 1; gives = 0 - gust;"
+            + "far = 900 + gust * (100 - weight) - gust * white + gust * late; man a 90 200 0 0; man b 90 200 0 0;");
+        x.attempt(0, 9, 0, 0);
+        due("pound(0, 10, 0)", 10, x.pound(0, 10, 0));
+        x.attempt(0, 9, 0, 0);
+        due("number(0)", 2, x.number(0));
+        x.attempt(0, 9, 0, 0);
+        due("cost(0, -1, false)", 1, x.cost(0, -1, false));
+        x.attempt(0, 9, 0, 0);
+        due("atGate(0, 20, false)", 910, x.atGate(0, 20, false));
+        x.attempt(0, 9, 0, 0);
+        due("gates(1)", 1820, x.gates(1));
     }
 
     /** 24 */
@@ -569,6 +581,16 @@ public final class PromiseTest {
         due("needs(0): 700 in all, of 700", 0, x.needs(0));
         x.start(1);
         due("needs(0): 1400 in all, of 700", 900, x.needs(0));
+        begin("27 9999 at most", "hill 900 1000 0; man a 50 200 0 0; man b 50 200 0 0; style = length - 9900; judge x 0 0;"
+            + "far = 9998;");
+        x.start(1);
+        due("needs(1): 600 + L - 9900 above 698", 9999, x.needs(1));
+        x.undo();
+        x.gate(0);
+        x.start(1);
+        due("needs(1): at the same gate", 9999, x.needs(1));
+        x.gate(1);
+        due("needs(1): 50 POINTS less", -2, x.needs(1));
         begin("27 the least, though STYLE falls with it", "man a 50 200 0 0; man b 50 200 0 0; judge x 0 0;"
             + "style = if length < 850 then 200 else 0; far = 820;");
         x.start(1);
