@@ -26,6 +26,19 @@ final class Check {
         due(call, want ? 1 : 0, got ? 1 : 0);
     }
 
+    /** Of two long texts only the first piece is told in which they part. */
+    void due(String call, String want, String got) {
+        int i = 0;
+        while (i < want.length() && i < got.length() && want.charAt(i) == got.charAt(i)) {
+            i++;
+        }
+        due(call + ": " + piece(got, i) + " instead of " + piece(want, i), true, want.equals(got));
+    }
+
+    private static String piece(String text, int around) {
+        return text.substring(Math.max(0, Math.min(around, text.length()) - 30), Math.min(text.length(), around + 20));
+    }
+
     boolean isFine() {
         return wrong == 0;
     }

@@ -5,7 +5,9 @@ import com.sun.source.tree.BlockTree;
 import com.sun.source.tree.ClassTree;
 import com.sun.source.tree.CompilationUnitTree;
 import com.sun.source.tree.CompoundAssignmentTree;
+import com.sun.source.tree.DoWhileLoopTree;
 import com.sun.source.tree.ExpressionTree;
+import com.sun.source.tree.ForLoopTree;
 import com.sun.source.tree.ImportTree;
 import com.sun.source.tree.LambdaExpressionTree;
 import com.sun.source.tree.MemberReferenceTree;
@@ -17,11 +19,13 @@ import com.sun.source.tree.ThrowTree;
 import com.sun.source.tree.Tree;
 import com.sun.source.tree.TryTree;
 import com.sun.source.tree.VariableTree;
+import com.sun.source.tree.WhileLoopTree;
 import com.sun.source.util.JavacTask;
 import com.sun.source.util.TreePath;
 import com.sun.source.util.TreePathScanner;
 import com.sun.source.util.Trees;
 import java.io.File;
+import java.lang.reflect.Field;
 import java.lang.reflect.Method;
 import java.lang.reflect.Modifier;
 import java.util.ArrayDeque;
@@ -84,6 +88,13 @@ public final class LanguageTest {
             }
         }
         rule(1, "the face is " + face, face.equals(FACE));
+        rule(1, "public and final", Modifier.isPublic(WindJump.class.getModifiers()) && Modifier.isFinal(WindJump.class.getModifiers()));
+        rule(1, "one public constructor that takes nothing", WindJump.class.getDeclaredConstructors().length == 1
+            && WindJump.class.getConstructors().length == 1 && WindJump.class.getConstructors()[0].getParameterCount() == 0);
+        for (Field field : WindJump.class.getDeclaredFields()) {
+            rule(1, field + " is private", Modifier.isPrivate(field.getModifiers()) != field.getName().equals("NONE"));
+        }
+        rule(1, "NONE is -1", WindJump.NONE == -1);
     }
 
     private void checkTree(File file) throws Exception {
@@ -94,6 +105,8 @@ public final class LanguageTest {
         unit = task.parse().iterator().next();
         task.analyze();
         trees = Trees.instance(task);
+        rule(1, "no package line", unit.getPackageName() == null);
+        rule(1, "one class in the file", unit.getTypeDecls().size() == 1);
         source = unit.getSourceFile().getCharContent(true).toString();
         new Walk().scan(unit, null);
         findRecursive();
@@ -213,6 +226,7 @@ public final class LanguageTest {
             calls.computeIfAbsent(method, m -> new LinkedHashSet<>());
             rule(11, method + " takes " + tree.getParameters().size(), tree.getParameters().size() <= 7);
             rule(11, method + " has " + lines(tree) + " lines", lines(tree) <= 60);
+            rule(6, method, !Set.of("equals", "hashCode", "toString").contains(tree.getName().toString()));
             boolean open = tree.getModifiers().getFlags().contains(javax.lang.model.element.Modifier.PUBLIC);
             boolean named = FACE.stream().anyMatch(f -> f.contains(" " + tree.getName() + "("));
             rule(1, method + " bears a public name", open == named || method.equals("WindJump.<init>"));
@@ -267,8 +281,27 @@ public final class LanguageTest {
 
         @Override
         public Void visitArrayType(ArrayTypeTree tree, Void v) {
-            rule(3, tree.toString(), tree.toString().matches("(int|long|short|byte|char|boolean)\\[\\](\\[\\])?"));
+            rule(3, tree.toString(), tree.toString().matches("(int|long|short|byte|char)\\[\\](\\[\\])?|boolean\\[\\]"));
             return null;
+        }
+
+        @Override
+        public Void visitForLoop(ForLoopTree tree, Void v) {
+            rule(9, "an end of the loop " + tree, tree.getCondition() != null && !tree.getCondition().toString().equals("true")
+                && !tree.getUpdate().isEmpty());
+            return super.visitForLoop(tree, v);
+        }
+
+        @Override
+        public Void visitWhileLoop(WhileLoopTree tree, Void v) {
+            rule(9, "an end of the loop " + tree, !tree.getCondition().toString().equals("(true)"));
+            return super.visitWhileLoop(tree, v);
+        }
+
+        @Override
+        public Void visitDoWhileLoop(DoWhileLoopTree tree, Void v) {
+            rule(9, "an end of the loop " + tree, !tree.getCondition().toString().equals("(true)"));
+            return super.visitDoWhileLoop(tree, v);
         }
 
         @Override

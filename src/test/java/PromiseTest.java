@@ -4,7 +4,7 @@
  * of bob 943 - .. , of cid 941 - .. ; STYLE of all 366, 364, 364, and 4 less for each second LATE.
  */
 public final class PromiseTest {
-    private static final String HILL = "hill 900 1000 20; wind = 10 + section * 5 - at; parts 1 0 0 0 3;"
+    static final String HILL = "hill 900 1000 20; wind = 10 + section * 5 - at; parts 1 0 0 0 3;"
         + "far = 900 + gust * 2 + bar * 10 - late * late - white - weight / 10 + ski / 50; gives = 0 - gust;"
         + "style = 180 - late * 2 + lean + home * 5; goes = 1; man ann 50 250 0 1; man bob 60 260 0 2;"
         + "man cid 70 240 0 3; judge x 3 1; judge y - 2 2; judge z 0 3; judge w 1 1; snow 4; waits 2 10;"
