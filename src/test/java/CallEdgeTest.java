@@ -19,6 +19,7 @@ public final class CallEdgeTest {
         test.gatesOfAll();
         test.crowns();
         test.withoutJudge();
+        test.withoutByOne();
         test.needs();
         test.needsByNone();
         test.spreads();
@@ -33,7 +34,9 @@ public final class CallEdgeTest {
         test.slips();
         test.slots();
         test.counts();
+        test.ofOneMan();
         test.fullest();
+        test.fullestKept();
         test.check.end("CallEdgeTest");
     }
 
@@ -201,6 +204,19 @@ public final class CallEdgeTest {
         // LENGTH 905 in MEAN wind (5 + 5 + 40 + 40 + 5) by 5, then 26, then 940 in 33
         due("what 2", 0, x.wait(0, 2));
         due("what 3", 600 + 10 - 190, x.wait(0, 3));
+        check.about("19: LONGEST by 1, most POINTS by 1");
+        x = Check.told(ANN + "hill 900 1000 10; waits 4 60; parts 1 0 0 0 0; far = 900 + gust; wind = if at < 3 then 1 else 2;");
+        due("what 0", 3, x.wait(0, 0));
+        due("what 1", 902, x.wait(0, 1));
+        due("what 2", 3, x.wait(0, 2));
+        due("what 3", 602, x.wait(0, 3));
+        for (int weight : new int[] {30, 70}) {
+            x = Check.told(ANN + "man b " + weight + " 200 0 0; hill 900 1000 10; far = 850 + weight;");
+            int[] due = {0, 850 + weight, 0, 550 + weight};
+            for (int what = 0; what < 4; what++) {
+                due("of the second MAN, all alike: what " + what, due[what], x.wait(1, what));
+            }
+        }
         check.about("19: LATE 0, at the GATE that is, as many having started as have");
         x = Check.told(ANN + "man b 50 200 9 0; snow 5; waits 0 1; far = 500 - white + bar - late; seed 3;");
         x.start(1);
@@ -362,6 +378,10 @@ public final class CallEdgeTest {
         due("above", 10, x.crown(1, 10));
         x.gate(15);
         due("below", 10, x.crown(0, 10));
+        for (int gate = 19; gate <= 21; gate++) {
+            x.gate(gate);
+            due("b at " + gate, gate > 20 ? 10 : 0, x.crown(1, 10));
+        }
         x = Check.told("man a 50 200 0 0; man b 60 200 0 0; far = 900 + bar; waits 0 10; second 1; gate 20 0;");
         x.gate(10);
         x.letGo(0);
@@ -451,6 +471,61 @@ public final class CallEdgeTest {
         due("a and b", 0, x.without(0, 0));
     }
 
+    /** WITHOUT where one POINT more or less in a JUMP would change the RANKS. */
+    private void withoutByOne() {
+        check.about("26: who has not started yet has 0, whatever a JUMP of nothing would be worth");
+        WindJump x = Check.told("hill 900 1000 0; man a 50 200 0 0; man b 50 200 0 0; judge j 0 0; style = 0; waits 0 1;");
+        x.letGo(0);
+        due("a", 0, x.without(0, 0));
+        due("b", 1, x.without(1, 0));
+        check.about("26: what GIVES told of each JUMP's MEAN wind");
+        x = Check.told("man a 50 200 0 0; man b 50 200 0 0; judge j 0 0; style = 0; waits 0 10; far = 900; gives = gust * 3;"
+            + "wind = if at < 10 then 20 else 0 - 20;");
+        x.start(2);
+        due("a first", 0, x.without(0, 0));
+        x = Check.told("man a 50 200 0 0; man b 50 200 0 0; judge j 0 0; style = 0; waits 0 10; far = 900; gives = 0 - gust * 3;"
+            + "wind = if at < 10 then 20 else 0 - 20;");
+        x.start(2);
+        due("b first", 0, x.without(1, 0));
+        for (int more = -1; more <= 1; more++) {
+            check.about("26: b's two JUMPS and a's one: " + more);
+            // a has 600 and GIVES 7, b 300 and 7 and then so much that he has 607 and so many more
+            x = Check.told("hill 900 1000 10; man a 50 200 0 0; man b 50 200 0 0; judge j 0 0; judge k 0 0; style = 3; gives = 7;"
+                + "waits 0 1; gate 20 0; far = if bar < 1 then 900 else if bar < 2 then 600 else " + (590 + more) + ";");
+            x.letGo(0);
+            x.gate(21);
+            x.letGo(0);
+            x.gate(22);
+            x.letGo(0);
+            due("a has", 613, x.points(0));
+            due("b has", 313 + 303 + more, x.points(1));
+            due("b without j: 310 and " + (300 + more) + " to 610", more > 0 ? 0 : 1, x.without(1, 0));
+        }
+        check.about("26: a JUDGE of the second round, of both");
+        x = Check.told("hill 900 1000 10; man a 50 200 0 1; man b 50 200 0 2; judge j 9 2; judge k 8 1; style = lean * home * 10; far = 900;"
+            + "waits 0 1;");
+        x.start(4);
+        // a 600 and 80, b 600 and 90, each twice
+        due("b is first", 1, x.ranked(0));
+        due("without j a is", 0, x.without(0, 0));
+        due("without k b is", 0, x.without(1, 1));
+        x = Check.told("hill 900 1000 10; man a 50 200 0 1; man b 50 200 0 2; judge j 5 2; judge k 9 1; style = lean * home * 10; far = 900;"
+            + "waits 0 1;");
+        x.start(4);
+        due("a is first", 0, x.ranked(0));
+        due("without j a is", 0, x.without(0, 0));
+        due("without k b is", 0, x.without(1, 1));
+        check.about("26: JUMPS that differ by what GIVES tells alone");
+        x = Check.told("hill 900 1000 0; man a 50 200 0 0; man b 50 200 0 0; man c 50 200 0 0; judge j 0 0; waits 0 3; wind = at; gives = gust;");
+        for (int starts = 1; starts <= 6; starts++) {
+            x.start(1);
+            for (int man = 0; man < 3; man++) {
+                due("behind " + starts + " STARTS", x.rank(man), x.without(man, 0));
+            }
+        }
+        due("the last one is first", 2, x.ranked(0));
+    }
+
     private void needs() {
         // without JUDGES: 600 + L - K with METRE 10
         String hill = "hill 900 1000 10; far = 800; waits 0 1; gate 20 7;";
@@ -478,6 +553,10 @@ public final class CallEdgeTest {
             + "judge j 1 0; style = 5 + gust + late * 9 + lean; waits 0 1;");
         x.letGo(0);
         due("b: as STYLE 6 and GIVES 30 are without wind", 301 - 36 + x.points(0), x.needs(1));
+        x = Check.told("hill 900 1000 10; man a 50 200 0 0; man b 50 200 0 0; far = 800; wind = 50; gives = 30; waits 0 1;");
+        x.letGo(0);
+        due("a has", 530, x.points(0));
+        due("b: what GIVES tells counts", 531 - 30 + 300, x.needs(1));
         for (String side : new String[] {"gust < 0", "0 < gust"}) {
             for (int step : new int[] {-1, 1}) {
                 x = Check.told("hill 900 1000 10; man a 50 200 0 0; man b 50 200 0 0; far = 800; wind = 50; waits 0 1; gives = if " + side
@@ -635,6 +714,11 @@ public final class CallEdgeTest {
                 due("most", jumps * (10 + leans[i][most[i]]), x.harsh(true, 1));
             }
         }
+        check.about("32: in all JUMPS that were: of those in round 2 too, whoever is not");
+        WindJump two = Check.told("far = 900 + weight; waits 0 1; man a 40 200 0 0; man b 50 200 0 0; second 1; judge j 0 0; style = 50;");
+        two.start(3);
+        due("a was not in round 2", NO, two.jump(0, 2, 0));
+        due("three JUMPS", 150, two.harsh(true, 1));
         check.about("32: -2: no JUDGES; NONE for others, with none too");
         WindJump x = Check.told(ANN);
         x.start(1);
@@ -723,7 +807,7 @@ public final class CallEdgeTest {
 
     private void himself() {
         check.about("36: the MAN whose JUMP was longest against what it would have been, LATE 0 (less is worse)");
-        String text = "waits 0 10; seed 2; far = 900 + late * (1 + white + gust) + bar; snow 1; wind = at / 8; parts 1 0 0 0 0; second 3;"
+        String text = "waits 0 10; seed 2; far = 800 + weight + gust * 3 + late * (1 + white + gust) + bar; snow 1; wind = at / 8; parts 1 0 0 0 0; second 3;"
             + "man a 50 200 9 0; man b 60 200 9 0; man c 70 200 9 0;";
         WindJump x = Check.told(text);
         due("nobody has started", -2, x.himself(0));
@@ -758,6 +842,26 @@ public final class CallEdgeTest {
         due("a", 0, x.himself(0));
         due("0", 0, x.himself(1));
         due("round 1", 1, x.himself(2));
+        check.about("36: longest by 1");
+        for (int seed = 0; seed < 40; seed++) {
+            x = Check.told("man a 50 200 1 0; man b 60 200 1 0; waits 0 10; second 1; far = 900 + late; seed " + seed + ";");
+            x.start(2);
+            int a = Lot.of(3, seed, 100000) - 1;
+            int b = Lot.of(3, seed, 100010) - 1;
+            due("who of " + a + " and " + b, b > a ? 1 : 0, x.himself(0));
+            due("the difference", Math.max(a, b), x.himself(1));
+        }
+        check.about("36: in round 2, where the first MAN is not");
+        for (int seed = 0; seed < 40; seed++) {
+            x = Check.told("man a 50 200 0 0; man b 60 200 9 0; waits 0 10; second 1; far = 500 + weight * 10 + late; seed " + seed + ";");
+            x.start(3);
+            int one = Lot.of(19, seed, 100010) - 9;
+            int other = Lot.of(19, seed, 100020) - 9;
+            int most = Math.max(0, Math.max(one, other));
+            due("who of 0, " + one + ", " + other, most > 0 ? 1 : 0, x.himself(0));
+            due("the difference", most, x.himself(1));
+            due("in which round", most > 0 && other > one ? 2 : 1, x.himself(2));
+        }
         check.about("36: (less is worse): below 0");
         x = Check.told("man a 50 200 9 0; waits 0 1; far = 900 - late * late; seed 1;");
         x.start(1);
@@ -828,6 +932,7 @@ public final class CallEdgeTest {
         for (int k = 0; k <= 5; k++) {
             due("a KNOWN by " + k, ofA[k], x.slips(0, k, -1));
             due("b KNOWN by " + k, ofB[k], x.slips(1, k, -1));
+            due("b's least", 0, x.slips(1, k, 0));
         }
         due("KNOWN by 6", -1, x.slips(0, 6, -1));
         due("not so many", -1, x.slips(0, 5, 0));
@@ -930,6 +1035,11 @@ public final class CallEdgeTest {
         x.gate(30);
         x.start(1);
         due("in round 2", 910, x.count(12));
+        x = Check.told("far = 900 + weight + bar * 10; waits 0 1; man a 49 200 0 0; man b 50 200 0 0; man c 51 200 0 0; second 1;");
+        x.start(3);
+        x.gate(30);
+        x.start(1);
+        due("c's in round 2", 1051, x.count(12));
         due("0 LONG", 0, longestOf(Check.told(ANN + "far = 0;")));
         check.about("42: bytes, things, TOLD ones, SLOTS");
         x = RefusedTest.scene();
@@ -937,6 +1047,46 @@ public final class CallEdgeTest {
         for (int what = 0; what <= 12; what++) {
             due("count(" + what + ")", counts[what], x.count(what));
         }
+    }
+
+    /** Calls of the second MAN, who has another WEIGHT, SKI and LAND than the first one. */
+    private void ofOneMan() {
+        // LENGTH of a: 1000 - 12 * wind - 50 * late, of b: 1820 + 8 * wind - 70 * late; b has 30 more of STYLE
+        WindJump x = Check.told("hill 900 1000 10; man a 50 200 0 1; man b 70 260 0 2; judge j 0 2; style = 100 + home * 30 + late * 2;"
+            + "far = weight * ski / 10 + gust * (weight - 62) - late * weight - white * weight + bar * weight; snow 1; waits 3 60;"
+            + "wind = at; parts 1 0 0 0 0; gives = gust * 3; gate 20 0;");
+        check.about("19, 28: of one MAN and the other: in 0 .. 3 the wind is that");
+        int[][] waits = {{0, 1000, 0, 806}, {3, 1844, 3, 600 + 944 + 130 + 15}};
+        int[] spreads = {36, 24};
+        for (int man = 0; man < 2; man++) {
+            for (int what = 0; what < 4; what++) {
+                due("wait(" + man + ", " + what + ")", waits[man][what], x.wait(man, what));
+            }
+            due("spread(" + man + ")", spreads[man], x.spread(man));
+        }
+        x.pause(5);
+        check.about("18, 20 to 23, 29: of one MAN and the other: the wind is 5, MEAN wind 7");
+        int[] lengths = {940, 1860};
+        int[] weights = {50, 70};
+        int[] styles = {100, 130};
+        int[] gains = {-60 + 21, 40 + 21};
+        int[] pounds = {720 - 1000 - 50, 1440 - 1820 - 50};
+        for (int man = 0; man < 2; man++) {
+            int points = 600 + lengths[man] - 900 + styles[man] + 21;
+            due("LENGTH", lengths[man] - 2 * weights[man], x.attempt(man, 0, 2, 0));
+            due("POINTS", points - 2 * weights[man] + 4, x.attempt(man, 0, 2, 1));
+            due("STYLE", styles[man] + 4, x.attempt(man, 0, 2, 2));
+            due("cost", 3 * weights[man], x.cost(man, 3, false));
+            due("cost of POINTS", 3 * weights[man] - 6, x.cost(man, 3, true));
+            due("pound", pounds[man], x.pound(man, 10, 20));
+            due("gain", gains[man], x.gain(man));
+            due("number", weights[man], x.number(man));
+            due("atGate", lengths[man] + 2 * weights[man], x.atGate(man, 22, false));
+            due("atGate", points + 2 * weights[man], x.atGate(man, 22, true));
+        }
+        check.about("27: of one MAN and the other: STYLE of a is 100, of b 130; without POINTS yet");
+        due("needs(0)", 0, x.needs(0));
+        due("needs(1)", 900 - 729, x.needs(1));
     }
 
     /** All calls that look at MEN and JUDGES, of 8 MEN and 7 JUDGES. */
@@ -976,6 +1126,19 @@ public final class CallEdgeTest {
         for (int man = 0; man < 8; man++) {
             due("ahead in round 2", man, x.jump(man, 2, 7));
             due("progress", 0, x.progress(man));
+            for (int judge = 0; judge < 7; judge++) {
+                due("mark", 100 + judge, x.mark(man, 2, judge));
+            }
+        }
+        check.about("25: 16 STARTS, 8 of them");
+        due("the last one wins", 1, Check.told(text.toString()).crown(7, 1));
+        x = Check.told(text.toString());
+        x.start(8);
+        due("the last one wins", 1, x.crown(7, 1));
+        check.about("31: the last of 8 first: who starts first has least snow");
+        for (int man = 0; man < 8; man++) {
+            due("reversed", 7 - man, Check.told(text + "far = 900 - white; second 1;").reversed(man));
+            due("reversed, the lightest is best", man, Check.told(text + "far = 1500 - weight * 10 - white;").reversed(man));
         }
         check.about("27: with 7 JUDGES");
         x = Check.told("hill 900 1000 10; far = 900; style = 200; waits 0 1; man a 50 200 0 0; man b 50 200 0 0;"
@@ -983,6 +1146,67 @@ public final class CallEdgeTest {
         x.letGo(0);
         due("a has", 1600, x.points(0));
         due("b: 1601", 901, x.needs(1));
+    }
+
+    /** What is kept of 8 MEN and 7 JUDGES: the last of all of it too. */
+    private void fullestKept() {
+        StringBuilder text = new StringBuilder("far = 900 + weight + bar; style = length / 10 + lean; waits 0 1;");
+        for (int i = 0; i < 8; i++) {
+            text.append("man m").append((char) ('a' + i)).append(" 5").append(i).append(" 200 0 0;");
+        }
+        for (int i = 0; i < 7; i++) {
+            text.append("judge j").append((char) ('a' + i)).append(' ').append(i).append(" 0;");
+        }
+        check.about("17: the order of round 2 comes back");
+        WindJump x = Check.told(text.toString());
+        x.start(8);
+        x.start(8);
+        due("undo", true, x.undo());
+        for (int n = 0; n < 8; n++) {
+            due("next", n, x.now(3));
+            x.start(1);
+        }
+        for (int n = 7; n >= 0; n--) {
+            due("undo", true, x.undo());
+            due("next", n, x.now(3));
+        }
+        x = Check.told(text + "far = 1000 - weight;");
+        x.start(8);
+        due("the worst", 7, x.now(3));
+        x.hold(0);
+        due("undo", true, x.undo());
+        for (int n = 0; n < 8; n++) {
+            due("next in round 1", n, x.now(3));
+            x.start(1);
+        }
+        due("restore", true, x.restore(0));
+        for (int n = 0; n < 8; n++) {
+            due("next in round 2", 7 - n, x.now(3));
+            x.start(1);
+        }
+        check.about("41: POINTS and marks of the last one come back");
+        x = Check.told(text.toString());
+        x.start(8);
+        x.start(8);
+        int points = x.points(7);
+        x.hold(0);
+        due("undo", true, x.undo());
+        x.hold(1);
+        int half = x.points(7);
+        x.gate(40);
+        x.start(8);
+        due("mark", 97 + 6, x.mark(7, 2, 6));
+        due("restore", true, x.restore(0));
+        due("mark", 95 + 6, x.mark(7, 2, 6));
+        due("points", points, x.points(7));
+        due("restore", true, x.restore(1));
+        due("points", half, x.points(7));
+        due("no mark", NO, x.mark(7, 2, 6));
+        due("mark of round 1", 95 + 6, x.mark(7, 1, 6));
+        for (int n = 0; n < 8; n++) {
+            due("next", n, x.now(3));
+            x.start(1);
+        }
     }
 
     private static int longestOf(WindJump x) {

@@ -59,6 +59,16 @@ public final class JumpEdgeTest {
                 }
             }
         }
+        check.about("II: LOT of each second and SECTION there is");
+        WindJump all = null;
+        for (int which = 0; which < 8 * 100000; which++) {
+            if (which % 800 == 0) {
+                all = Check.told("gusts 30; seed 2718;");
+            }
+            if (which % 8 < 5) {
+                due("wind of " + which, Lot.of(61, 2718, which) - 30, all.wind(which % 8, which / 8));
+            }
+        }
         check.about("II: LOT by hand: 61 of 0 and 0, of 0 and 9");
         due("61 of 0 and 0", 6, Lot.of(61, 0, 0));
         due("wind(0, 0)", -24, Check.told("gusts 30;").wind(0, 0));
@@ -441,7 +451,7 @@ public final class JumpEdgeTest {
             check.about("II: LATE is LOT (2 * SLIP + 1) of the SEED and 100000 + the second, less SLIP: " + slip);
             for (int seed : new int[] {0, 1, 9999}) {
                 WindJump x = Check.told("man a 50 200 " + slip + " 0; man b 50 200 0 0; man c 50 200 9 0; waits 6 11; seed " + seed
-                    + "; far = 500 + late; goes = at - 2;");
+                    + "; far = 500 + late; goes = at - 2; judge j 0 0; style = 100 - late * 3;");
                 due("start", 2, x.start(2));
                 x.letGo(6);
                 int[] seconds = {3, 3 + 11 + 3, 3 + 11 + 3 + 11 + 6};
@@ -451,6 +461,8 @@ public final class JumpEdgeTest {
                     due("let go in", seconds[man], x.jump(man, 1, 4));
                     due("LATE", late, x.jump(man, 1, 3));
                     due("LENGTH", 500 + late, x.jump(man, 1, 0));
+                    due("mark", 100 - 3 * late, x.mark(man, 1, 0));
+                    due("STYLE", 100 - 3 * late, x.jump(man, 1, 2));
                 }
             }
         }

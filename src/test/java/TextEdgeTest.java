@@ -588,6 +588,9 @@ public final class TextEdgeTest {
         reads(3, 18, "judge ann 0 0;man ann 50 200 0 0;");
         reads(3, 20, "judge ann 0 0;judge ann 0 0;");
         reads(3, 24, "man ann 50 200 0 0; man ann 50 200 0 0; man ann 50 200 0 0;");
+        reads(3, 24, "man ann 50 200 0 0; man ann50 200 0 0;");
+        reads(3, 24, "man ann60 200 0 0;  man\nann\n50 200 0 0;");
+        reads(3, 20, "judge ann-9 0;judge ann 0 0;");
         reads(3, men(8).length() + judges(6).length() + 6, men(8) + judges(6) + "judge ma 0 0;");
         reads(3, men(8).length() + judges(6).length() + 6, men(8) + judges(6) + "judge jf 0 0;");
         reads(3, men(7).length() + judges(7).length() + 4, men(7) + judges(7) + "man jg 50 200 0 0;");
